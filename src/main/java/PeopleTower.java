@@ -68,9 +68,6 @@ public final class PeopleTower {
                 || !within(fear, 0, MOST_STOREYS - 1) || !within(stamina, 0, 20000)) {
             return OUTSIDE;
         }
-        if (people.size >= MOST_PEOPLE) {
-            return FULL;
-        }
         return people.add(height, weight, bears, fear, stamina);
     }
 

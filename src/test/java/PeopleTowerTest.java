@@ -148,6 +148,7 @@ public final class PeopleTowerTest {
         due(3, "storeys(3)", x.storeys(3), 7);
         due(3, "width(2, 2) for 8 places", x.width(2, 2), NOT);
         due(3, "width(2, 1) is as it was", x.width(2, 1), 1);
+        due(3, "width(3, 3), the next above a full tower", x.width(3, 3), 2);
         due(3, "width(1, 2)", x.width(1, 2), 3);
         due(3, "width(2, 2)", x.width(2, 2), 1);
         int[] badStoreys = {-1, 4, LEAST, MOST};
@@ -512,6 +513,9 @@ public final class PeopleTowerTest {
         x.play(1);
         due(13, "swap(0, 1) with too little play", x.swap(0, 1), NOT);
         dueRow(13, x, 1, 0, 2);
+        x.play(2);
+        due(13, "swap(0, 1) with just enough play", x.swap(0, 1), 1);
+        dueRow(13, x, 0, 1, 2);
         PeopleTower y = new PeopleTower();
         y.person(150, 50, 400, 0, 0);
         y.person(150, 50, 400, 0, 0);
@@ -589,6 +593,20 @@ public final class PeopleTowerTest {
         x.person(150, 40, 0, 1, 0);
         x.take(0);
         due(15, "weak(), the least of two", x.weak(), 0);
+        x = new PeopleTower();
+        x.storeys(1);
+        x.width(0, 1);
+        x.person(150, 50, 400, 0, 0);
+        x.take(0);
+        due(15, "weak(), nobody above", x.weak(), NONE);
+        x.width(0, 1);
+        x.storeys(2);
+        x.person(150, 40, 0, 1, 0);
+        x.take(0);
+        due(15, "weak(), someone above", x.weak(), 0);
+        x.storeys(1);
+        x.take(0);
+        due(15, "weak(), nobody above again", x.weak(), NONE);
     }
 
     private static void effort() {
@@ -641,6 +659,9 @@ public final class PeopleTowerTest {
         due(17, "worths(0, 1000)", x.worths(0, 1000), 1);
         due(17, "attempt()", x.attempt(), 1000);
         due(17, "count(4)", x.count(4), 1015);
+        PeopleTower y = pair(0);
+        y.worths(7, 9);
+        due(17, "attempt(), the worth of the crown", y.attempt(), 7);
         due(17, "worths without a placing", new PeopleTower().worths(1, 2), 1);
     }
 
